@@ -1,0 +1,54 @@
+/** Counts the answers that are not the due ones; a test ends with finish(). */
+final class Check {
+    private static int asked = 0;
+    private static int wrong = 0;
+
+    private Check() {
+    }
+
+    static void due(String call, long got, long want) {
+        asked++;
+        if (got != want) {
+            wrong++;
+            if (wrong <= 40) {
+                System.out.println(call + " answered " + got + ", due is " + want);
+            }
+        }
+    }
+
+    static void holds(String what, boolean is) {
+        due(what, is ? 1 : 0, 1);
+    }
+
+    /** Feeds a text's bytes to THE TAPE, eight at once. */
+    static void feed(LastKeg x, String text) {
+        for (int i = 0; i < text.length(); i += 8) {
+            int n = Math.min(8, text.length() - i);
+            long w = 0;
+            for (int k = 0; k < n; k++) {
+                w = w << 8 | text.charAt(i + k) & 255;
+            }
+            x.feed(w, n);
+        }
+    }
+
+    static int read(LastKeg x, String text) {
+        feed(x, text);
+        return x.text();
+    }
+
+    /** A sheet of ints with these numbers. */
+    static void sheet(LastKeg x, int s, int... numbers) {
+        x.sheet(s, 2, numbers.length);
+        for (int i = 0; i < numbers.length; i++) {
+            x.cell(s, i, numbers[i]);
+        }
+    }
+
+    static void finish() {
+        System.out.println(asked + " answers looked at, " + wrong + " not as due");
+        if (wrong != 0 || asked == 0) {
+            System.exit(1);
+        }
+    }
+}
