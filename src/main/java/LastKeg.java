@@ -905,7 +905,7 @@ public final class LastKeg {
 
         private int value(int from, int to, int[] facts, int[] stack) {
             int top = 0;
-            for (int i = from; i < to; i++) {
+            for (int i = from; i < to && i < code.length; i++) {
                 int op = code[i];
                 if (op >= NAME_MORE) {
                     if (top >= stack.length) {
@@ -917,7 +917,7 @@ public final class LastKeg {
                     if (top < 1) {
                         return 0;
                     }
-                    stack[top - 1] = op == NOT ? truth(stack[top - 1] == 0) : -stack[top - 1];
+                    stack[top - 1] = alone(op, stack[top - 1]);
                 } else {
                     if (top < 2) {
                         return 0;
@@ -929,20 +929,23 @@ public final class LastKeg {
             return top > 0 ? stack[top - 1] : 0;
         }
 
-        private static int truth(boolean is) {
-            return is ? 1 : 0;
+        private static int alone(int op, int a) {
+            if (op == NEGATIVE) {
+                return -a;
+            }
+            return a == 0 ? 1 : 0;
         }
 
         private static int joined(int op, int a, int b) {
             switch (op) {
                 case OR:
-                    return truth(a != 0 || b != 0);
+                    return a != 0 || b != 0 ? 1 : 0;
                 case AND:
-                    return truth(a != 0 && b != 0);
+                    return a != 0 && b != 0 ? 1 : 0;
                 case LESS:
-                    return truth(a < b);
+                    return a < b ? 1 : 0;
                 case LIKE:
-                    return truth(a == b);
+                    return a == b ? 1 : 0;
                 case PLUS:
                     return a + b;
                 case MINUS:
@@ -1138,10 +1141,9 @@ public final class LastKeg {
             if (reads("and")) {
                 return AND;
             }
-            return reads("not") ? NOT : name();
-        }
-
-        private int name() {
+            if (reads("not")) {
+                return NOT;
+            }
             if (reads("store")) {
                 return NAME_STORE;
             }

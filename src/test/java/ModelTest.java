@@ -1,6 +1,6 @@
 /** All promises: runs of 512 calls on the class and on the model, answers compared. */
 public final class ModelTest {
-    private static final int RUNS = 150;
+    private static final int RUNS = 400;
     private static final int CALLS = 512;
 
     private final Chance c;

@@ -60,6 +60,8 @@ public final class RulesAndLawTest {
         Check.sheet(x, 3, 1);
         Check.due("7: BAD size ahead of FULL", x.rule(4, 0, 3), -2);
         Check.due("7: KIND 4 when full", x.rule(4, 0, 0), -4);
+        Check.due("8: the last rule", x.ruleTold(7, 1), 7);
+        Check.due("8: none behind it", x.ruleTold(8, 1), -5);
         LastKeg none = new LastKeg();
         none.sheet(2, 0, 0);
         Check.due("7: KIND 4 without men", none.rule(4, 0, 2), 0);
@@ -123,11 +125,11 @@ public final class RulesAndLawTest {
         gets(x, 0, 0, 5, 5, 2, 0);
         x.day(0, 1, 7);
         gets(x, 0, 0, 5, 5, 5, 4);
-        lotsOfThose();
+        lotOfTheLiving();
     }
 
     /** Man 0 dies on day 0, so of those who drink on day 1 man 1 is the first. */
-    private static void lotsOfThose() {
+    private static void lotOfTheLiving() {
         LastKeg x = new LastKeg();
         x.man(1, 9);
         x.man(40, 0);
@@ -137,6 +139,18 @@ public final class RulesAndLawTest {
         gets(x, 0, 0, 3, 6, 3);
         // (7 + 1) modulo 2 is 0: man 1; 12 by 2, 1 less, twice.
         gets(x, 0, 1, 0, 10, 2);
+        lotOfOne();
+    }
+
+    /** 2 less 1 is 1 by NEED; LOT doubles it for one who drinks alone. */
+    private static void lotOfOne() {
+        LastKeg x = new LastKeg();
+        x.man(40, 0);
+        x.boat(2, 2);
+        x.rule(2, 0, 0);
+        x.rule(3, 0, 0);
+        gets(x, 0, 0, 1);
+        gets(x, 1, 0, 2);
     }
 
     private static void feed() {
@@ -203,6 +217,13 @@ public final class RulesAndLawTest {
         wrong("need", 4);
         wrong("row 1;need 1;", 0);
         wrong("needs 1;row 1;", 0);
+        wrong("needz 1;row 1;", 0);
+        wrong("xeed 1;row 1;", 0);
+        wrong("need 1;xow 1;", 7);
+        wrong("need 1;row {;", 11);
+        wrong("need 1;row /;", 11);
+        wrong("need 1;row :;", 11);
+        wrong("need 1;row `;", 11);
         wrong("need 1;row 1", 12);
         wrong("need 1;row 1  ", 14);
         wrong("need 1;row 1;x", 13);
@@ -249,7 +270,21 @@ public final class RulesAndLawTest {
         }
         right(long1 + ";row 11;");
         wrong(long1 + ";row 111", 160);
+        wrong(long1 + ";row day", 160);
+        wrong(long1 + ";row dax", 157);
         fullOfTexts();
+        oneLongTextBehindAnother(long1 + ";row 11;");
+    }
+
+    /** What was read ahead leaves nothing behind, be it right or wrong. */
+    private static void oneLongTextBehindAnother(String text) {
+        LastKeg x = new LastKeg();
+        for (int t = 1; t < 6; t++) {
+            Check.due("10: long text " + t, Check.read(x, text), t);
+            if (t < 5) {
+                Check.due("10: long wrong text", Check.read(x, text.replace(";row", ";raw")), -253);
+            }
+        }
     }
 
     private static void fullOfTexts() {

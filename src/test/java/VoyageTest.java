@@ -103,6 +103,12 @@ public final class VoyageTest {
         fraction("13: LEAST", x.mean(0, 1, 0), x.mean(0, 1, 1), 3, 10);
         x.man(99, 0);
         fraction("13: MEAN of 3", x.mean(0, 0, 0), x.mean(0, 0, 1), 8, 5);
+        LastKeg one = new LastKeg();
+        one.man(1, 0);
+        one.rule(0, 0, 0);
+        one.day(0, 0, 4);
+        one.boat(0, 1);
+        fraction("13: LEAST of one", one.mean(0, 1, 0), one.mean(0, 1, 1), 2, 5);
         Check.due("13: no rule", x.mean(1, 0, 0), NO);
         Check.due("13: rule -1", x.mean(-1, 0, 0), NO);
         Check.due("13: what 2", x.mean(0, 2, 0), NO);
@@ -246,6 +252,31 @@ public final class VoyageTest {
         most.day(1, 0, 1);
         // Each needs 12, so 12 of 96; less than that leaves none alive.
         Check.due("17: 96", most.rations(0), 96);
+        LastKeg alone = new LastKeg();
+        alone.man(50, 0);
+        alone.rule(0, 0, 0);
+        Check.read(alone, "need 1;row share;");
+        alone.force(1);
+        alone.boat(0, 1);
+        alone.boat(1, 999);
+        alone.boat(3, 98);
+        Check.due("17: 98", alone.rations(0), 98);
+        alone.boat(3, 99);
+        Check.due("17: 99", alone.rations(0), 99);
+        meanOfRations();
+    }
+
+    /** Man 0 is told nothing and dies on day 0 by any ration: LEAST is 1/10. */
+    private static void meanOfRations() {
+        LastKeg x = new LastKeg();
+        x.man(1, 0);
+        x.man(3, 0);
+        x.boat(0, 2);
+        x.day(0, 0, 1);
+        x.day(1, 0, 1);
+        Check.sheet(x, 0, 0, 50);
+        x.rule(4, 0, 0);
+        Check.due("17: MEAN, not LEAST", x.rations(0), 1);
     }
 
     /** Three (or more) of STORE 1 that need 2, each rows as told, ration as told. */
@@ -443,6 +474,15 @@ public final class VoyageTest {
         none.rule(0, 0, 0);
         none.sheet(0, 1, 0);
         Check.due("21: no men", none.judge(0, 0, 0), -1);
+        LastKeg full = new LastKeg();
+        for (int m = 0; m < 8; m++) {
+            full.man(9, m);
+        }
+        full.rule(0, 0, 0);
+        Check.sheet(full, 0, 1, 1, 1, 1, 1, 1, 1, 1);
+        Check.due("21: eight men", full.judge(0, 0, 0), -1);
+        full.cell(0, 7, 0);
+        Check.due("21: the eighth", full.judge(0, 0, 0), 7);
     }
 
     private static void until() {
