@@ -1,5 +1,10 @@
+import java.util.Set;
+import java.util.TreeSet;
+
 /** Counts the answers that are not the due ones; a test ends with finish(). */
 final class Check {
+    private static final Set<String> NAMES = new TreeSet<>();
+    private static String running = "";
     private static int asked = 0;
     private static int wrong = 0;
 
@@ -9,11 +14,39 @@ final class Check {
     static void due(String call, long got, long want) {
         asked++;
         if (got != want) {
-            wrong++;
-            if (wrong <= 40) {
-                System.out.println(call + " answered " + got + ", due is " + want);
+            complain(call + " answered " + got + ", due is " + want);
+        }
+    }
+
+    private static void complain(String of) {
+        wrong++;
+        if (wrong <= 40) {
+            System.out.println(running + of);
+        }
+    }
+
+    /** A test with a name that no other has, which looks at one answer at least. */
+    static void test(String name, Runnable body) {
+        running = name + " | ";
+        if (!NAMES.add(name)) {
+            complain("another test has this name");
+        }
+        int before = asked;
+        body.run();
+        if (asked == before) {
+            complain("looked at nothing");
+        }
+        running = "";
+    }
+
+    /** Whether a test's name begins so. */
+    static boolean isTested(String beginning) {
+        for (String name : NAMES) {
+            if (name.startsWith(beginning)) {
+                return true;
             }
         }
+        return false;
     }
 
     static void holds(String what, boolean is) {
@@ -46,7 +79,8 @@ final class Check {
     }
 
     static void finish() {
-        System.out.println(asked + " answers looked at, " + wrong + " not as due");
+        String named = NAMES.isEmpty() ? "" : NAMES.size() + " named tests, ";
+        System.out.println(named + asked + " answers looked at, " + wrong + " not as due");
         if (wrong != 0 || asked == 0) {
             System.exit(1);
         }

@@ -1,0 +1,4 @@
+/** A call of a test: what an object answers to some numbers. */
+interface Ask {
+    long of(LastKeg x, int[] a);
+}
