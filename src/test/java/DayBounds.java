@@ -26,13 +26,6 @@ final class DayBounds {
         return x;
     }
 
-    private static LastKeg law(LastKeg x, String text) {
-        int t = Check.read(x, text);
-        Check.due("the text", t, x.boatTold(6) - 1);
-        x.force(t);
-        return x;
-    }
-
     private static void rain() {
         Check.test("DAY: RAIN comes to THE KEG ahead of the drinking", () -> {
             LastKeg x = one(50, 0, 0, 12);
@@ -43,7 +36,7 @@ final class DayBounds {
             Check.due("he gets on day 1", x.told(0, 1, 0, 1), 0);
         });
         Check.test("DAY: RAIN 50 on each of 12 days, THE KEG goes above 999", () -> {
-            LastKeg x = law(one(50, 0, 999, 0), "need 0;row 0;");
+            LastKeg x = Boats.law(one(50, 0, 999, 0), "need 0;row 0;");
             x.boat(0, 12);
             for (int d = 0; d < 12; d++) {
                 x.day(d, 1, 50);
@@ -54,7 +47,7 @@ final class DayBounds {
             Check.due("THE KEG as told", x.boatTold(1), 999);
         });
         Check.test("DAY: RAIN of each day for itself", () -> {
-            LastKeg x = law(one(50, 0, 0, 0), "need 0;row 0;");
+            LastKeg x = Boats.law(one(50, 0, 0, 0), "need 0;row 0;");
             x.boat(0, 12);
             for (int d = 0; d < 12; d++) {
                 x.day(d, 1, d);
@@ -122,7 +115,7 @@ final class DayBounds {
         Check.test("STORE: the bound is 99 after both, not between", () ->
             Check.due("STORE", one(99, 0, 60, 2).told(0, 1, 0, 0), 98));
         Check.test("STORE: 99 and 99 more is 99", () ->
-            Check.due("STORE", law(one(99, 0, 999, 99), "need 0;row 0;").told(0, 1, 0, 0), 99));
+            Check.due("STORE", Boats.law(one(99, 0, 999, 99), "need 0;row 0;").told(0, 1, 0, 0), 99));
     }
 
     private static void storesBelow() {
@@ -137,7 +130,7 @@ final class DayBounds {
             });
         }
         Check.test("STORE: 1 less 20 is 0", () ->
-            Check.due("STORE", law(one(1, 0, 0, 0), "need 20;row 0;").told(0, 1, 0, 0), 0));
+            Check.due("STORE", Boats.law(one(1, 0, 0, 0), "need 20;row 0;").told(0, 1, 0, 0), 0));
         Check.test("STORE: what he gets comes ahead of what he needs", () ->
             Check.due("STORE", one(1, 0, 60, 3).told(0, 1, 0, 0), 1));
         Check.test("STORE: one with 1 DRINKS and rows", () -> {
@@ -165,7 +158,7 @@ final class DayBounds {
         }
         x.boat(0, 12);
         x.rule(0, 0, 0);
-        return law(x, "need 0;row 99;");
+        return Boats.law(x, "need 0;row 99;");
     }
 
     private static void rowing() {
@@ -196,7 +189,7 @@ final class DayBounds {
             Check.due("as day 2 begins", x.told(0, 2, 0, 3), 36);
         });
         Check.test("MILES: row is asked with what he got", () -> {
-            LastKeg x = law(one(50, 0, 7, 12), "need 0;row share;");
+            LastKeg x = Boats.law(one(50, 0, 7, 12), "need 0;row share;");
             Check.due("as day 1 begins", x.told(0, 1, 0, 3), 7);
             Check.due("as day 2 begins", x.told(0, 2, 0, 3), 7);
         });
@@ -245,7 +238,7 @@ final class DayBounds {
             Check.due("ends", x.ends(0, 0), -1);
         });
         Check.test("LAND: DAYS 12, at the end of day 11", () -> {
-            LastKeg x = law(rower(120), "need 0;row 10;");
+            LastKeg x = Boats.law(rower(120), "need 0;row 10;");
             x.boat(0, 12);
             Check.due("ends", x.ends(0, 0), 11);
             x.boat(0, 11);

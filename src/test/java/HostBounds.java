@@ -221,44 +221,36 @@ final class HostBounds {
         }
     }
 
-    private static LastKeg men(int n) {
-        LastKeg x = new LastKeg();
-        for (int m = 0; m < n; m++) {
-            x.man(99, 0);
-        }
-        return x;
-    }
-
     private static void sheetAnew() {
         Check.test("25: all 40 are 0", () -> {
-            LastKeg x = men(8);
+            LastKeg x = Boats.men(8);
             x.sheet(0, 2, 40);
             for (int at = 0; at < 40; at += 8) {
                 reads(x, 0, 2, at, 0, 0, 0, 0, 0, 0, 0, 0);
             }
         });
         Check.test("25: made anew all are 0", () -> {
-            LastKeg x = men(4);
+            LastKeg x = Boats.men(4);
             Check.sheet(x, 0, 1, 2, 3, 4);
             x.sheet(0, 2, 4);
             reads(x, 0, 2, 0, 0, 0, 0, 0);
         });
         Check.test("25: made anew smaller, then larger, all are 0", () -> {
-            LastKeg x = men(4);
+            LastKeg x = Boats.men(4);
             Check.sheet(x, 0, 1, 2, 3, 4);
             x.sheet(0, 2, 2);
             x.sheet(0, 2, 4);
             reads(x, 0, 2, 0, 0, 0, 0, 0);
         });
         Check.test("25: missing, then made anew, all are 0", () -> {
-            LastKeg x = men(4);
+            LastKeg x = Boats.men(4);
             Check.sheet(x, 0, 1, 2, 3, 4);
             x.sheet(0, -1, 4);
             x.sheet(0, 2, 4);
             reads(x, 0, 2, 0, 0, 0, 0, 0);
         });
         Check.test("25: made anew of another sort all are 0", () -> {
-            LastKeg x = men(2);
+            LastKeg x = Boats.men(2);
             Check.sheet(x, 0, 1, 2);
             x.sheet(0, 0, 2);
             Check.due("of that sort", x.men(0, 0, 0, 0), 0);
@@ -266,7 +258,7 @@ final class HostBounds {
             reads(x, 0, 0, 0, 0, 0);
         });
         Check.test("25: the other SHEETS stay", () -> {
-            LastKeg x = men(2);
+            LastKeg x = Boats.men(2);
             Check.sheet(x, 0, 1, 2);
             Check.sheet(x, 1, 3, 4);
             Check.sheet(x, 2, 5, 6);
@@ -295,7 +287,7 @@ final class HostBounds {
         Range.answered("26: a place is outside, of 1", () -> sheetOf(1), (x, v) -> x.cell(0, v, 1), -12, LOW, -1, 1, HIGH);
         Range.answered("26: a place is outside, of 0", () -> sheetOf(0), (x, v) -> x.cell(0, v, 1), -12, LOW, -1, 0, 1, HIGH);
         Check.test("26: number i alone becomes v", () -> {
-            LastKeg x = men(8);
+            LastKeg x = Boats.men(8);
             Check.sheet(x, 0, 1, 2, 3, 4, 5, 6, 7, 8);
             x.cell(0, 0, 11);
             x.cell(0, 7, 18);
@@ -331,7 +323,7 @@ final class HostBounds {
     }
 
     private static LastKeg eightNumbers() {
-        LastKeg x = men(8);
+        LastKeg x = Boats.men(8);
         Check.sheet(x, 0, 1, 2, 3, 4, 5, 6, 7, 8);
         x.sheet(1, 2, 8);
         return x;
@@ -369,7 +361,7 @@ final class HostBounds {
         for (int sort = 0; sort < 3; sort++) {
             int of = sort;
             Check.test("27: between two of sort " + sort, () -> {
-                LastKeg x = men(2);
+                LastKeg x = Boats.men(2);
                 x.sheet(0, of, 3);
                 x.sheet(1, of, 2);
                 x.cell(0, 1, 44);
@@ -410,7 +402,7 @@ final class HostBounds {
             });
         }
         Check.test("27: the one has room, the other has not", () -> {
-            LastKeg x = men(2);
+            LastKeg x = Boats.men(2);
             Check.sheet(x, 0, 1, 2, 3, 4);
             Check.sheet(x, 1, 5, 6);
             Check.due("to the smaller", x.copy(0, 0, 1, 0, 3), -12);

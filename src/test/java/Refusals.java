@@ -305,7 +305,8 @@ final class Refusals {
         refused("26: -12 of shorts", State.SOME, -12, cell, wrongAt(1, row(1, 0, 1), -1, 3));
         refused("26: -12 of 40 ints", State.SOME, -12, cell, wrongAt(1, row(2, 0, 1), -1, 40));
         refused("26: BAD ahead of -11, -12", State.SOME, BAD, cell, row(4, 99, 1), row(-1, -1, 1), row(LOW, LOW, LOW));
-        refused("26: -11 ahead of -12", State.SOME, -11, cell, row(3, -1, 1), row(3, 40, 1), row(3, LOW, LOW), row(3, HIGH, HIGH));
+        refused("26: -11 ahead of -12", State.SOME, -11, cell, row(3, -1, 1), row(3, 40, 1), row(3, LOW, LOW), row(3,
+            HIGH, HIGH));
         refused("26: -12 of a full one", State.FULL, -12, cell, row(0, 40, 1), row(1, 40, 1), row(2, 40, 1), row(3, 8, 1));
     }
 

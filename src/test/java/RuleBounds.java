@@ -22,23 +22,8 @@ final class RuleBounds {
         kindLast();
     }
 
-    /** Two numbers for each of the MEN: STORE, ROWS. Land is too far, nobody needs, THE KEG is full. */
-    static LastKeg boat(int ration, int... men) {
-        LastKeg x = new LastKeg();
-        for (int i = 0; i < men.length; i += 2) {
-            x.man(men[i], men[i + 1]);
-        }
-        x.boat(0, 12);
-        x.boat(1, 999);
-        x.boat(2, ration);
-        x.boat(3, 9999);
-        Check.read(x, "need 0;row 0;");
-        x.force(1);
-        return x;
-    }
-
     /** What each gets on a day by the RULE that came last. */
-    static void gets(LastKeg x, int d, int... due) {
+    private static void gets(LastKeg x, int d, int... due) {
         int r = x.boatTold(5) - 1;
         for (int m = 0; m < due.length; m++) {
             Check.due("on day " + d + " man " + m + " gets", x.told(r, d, m, 1), due[m]);
@@ -107,16 +92,8 @@ final class RuleBounds {
         });
     }
 
-    private static LastKeg men(int n) {
-        LastKeg x = new LastKeg();
-        for (int m = 0; m < n; m++) {
-            x.man(99, 0);
-        }
-        return x;
-    }
-
     private static LastKeg twoMenTold(int sort, int first, int second) {
-        LastKeg x = men(2);
+        LastKeg x = Boats.men(2);
         x.sheet(0, sort, 2);
         x.cell(0, 0, first);
         x.cell(0, 1, second);
@@ -128,7 +105,7 @@ final class RuleBounds {
             for (int size : new int[] {men - 1, men, men + 1, 40}) {
                 if (size >= 0) {
                     Check.test("7: " + men + " MEN, a SHEET of " + size, () -> {
-                        LastKeg x = men(men);
+                        LastKeg x = Boats.men(men);
                         x.sheet(2, 2, size);
                         Check.due("rule", x.rule(4, 0, 2), size == men ? 0 : -2);
                         Check.due("RULES", x.boatTold(5), size == men ? 1 : 0);
@@ -185,8 +162,8 @@ final class RuleBounds {
             Check.due("rule", x.rule(4, 0, 1), -2);
             Probe.alike(x, y);
         });
-        Check.test("7: BAD size ahead of BAD number, whatever stands there", () -> {
-            LastKeg x = men(1);
+        Check.test("7: BAD size and BAD number at once", () -> {
+            LastKeg x = Boats.men(1);
             Check.sheet(x, 0, 51, 1);
             Check.due("rule", x.rule(4, 0, 0), -2);
         });
@@ -241,17 +218,17 @@ final class RuleBounds {
     }
 
     private static void kindRule() {
-        Check.test("KIND 0: 12 by 3 is 4", () -> gets(byRule(0, 0, boat(12, 50, 0, 50, 9, 50, 1)), 0, 4, 4, 4));
-        Check.test("KIND 0: 11 by 3 is cut", () -> gets(byRule(0, 0, boat(11, 50, 0, 50, 9, 50, 1)), 0, 3, 3, 3));
-        Check.test("KIND 0: 3 by 3 is 1", () -> gets(byRule(0, 0, boat(3, 50, 0, 50, 9, 50, 1)), 0, 1, 1, 1));
-        Check.test("KIND 0: 2 by 3 is 0", () -> gets(byRule(0, 0, boat(2, 50, 0, 50, 9, 50, 1)), 0, 0, 0, 0));
-        Check.test("KIND 0: 0 by 1 is 0", () -> gets(byRule(0, 0, boat(0, 50, 0)), 0, 0));
-        Check.test("KIND 0: 99 by 1 is 99", () -> gets(byRule(0, 0, boat(99, 50, 0)), 0, 99));
+        Check.test("KIND 0: 12 by 3 is 4", () -> gets(byRule(0, 0, Boats.still(12, 50, 0, 50, 9, 50, 1)), 0, 4, 4, 4));
+        Check.test("KIND 0: 11 by 3 is cut", () -> gets(byRule(0, 0, Boats.still(11, 50, 0, 50, 9, 50, 1)), 0, 3, 3, 3));
+        Check.test("KIND 0: 3 by 3 is 1", () -> gets(byRule(0, 0, Boats.still(3, 50, 0, 50, 9, 50, 1)), 0, 1, 1, 1));
+        Check.test("KIND 0: 2 by 3 is 0", () -> gets(byRule(0, 0, Boats.still(2, 50, 0, 50, 9, 50, 1)), 0, 0, 0, 0));
+        Check.test("KIND 0: 0 by 1 is 0", () -> gets(byRule(0, 0, Boats.still(0, 50, 0)), 0, 0));
+        Check.test("KIND 0: 99 by 1 is 99", () -> gets(byRule(0, 0, Boats.still(99, 50, 0)), 0, 99));
         Check.test("KIND 0: 99 by 8 is 12", () -> gets(
-            byRule(0, 0, boat(99, 1, 0, 1, 0, 1, 0, 1, 0, 1, 0, 1, 0, 1, 0, 1, 9)), 0, 12, 12, 12, 12, 12, 12, 12, 12));
-        Check.test("KIND 0: MORE does not matter", () -> gets(byRule(0, 99, boat(12, 50, 0, 50, 9)), 0, 6, 6));
+            byRule(0, 0, Boats.still(99, 1, 0, 1, 0, 1, 0, 1, 0, 1, 0, 1, 0, 1, 0, 1, 9)), 0, 12, 12, 12, 12, 12, 12, 12, 12));
+        Check.test("KIND 0: MORE does not matter", () -> gets(byRule(0, 99, Boats.still(12, 50, 0, 50, 9)), 0, 6, 6));
         Check.test("KIND 0: by those who live alone", () -> {
-            LastKeg x = byRule(0, 0, boat(3, 3, 9, 50, 0));
+            LastKeg x = byRule(0, 0, Boats.still(3, 3, 9, 50, 0));
             x.force(0);
             // Man 0 needs 12 and dies on day 0.
             gets(x, 0, 1, 1);
@@ -261,36 +238,36 @@ final class RuleBounds {
 
     private static void kindRow() {
         Check.test("KIND 1: ROWS 1 is above 0, ROWS 0 is not", () ->
-            gets(byRule(1, 0, boat(9, 50, 0, 50, 0, 50, 1)), 0, 2, 2, 4));
-        Check.test("KIND 1: ROWS 9 is 1 more, too", () -> gets(byRule(1, 0, boat(9, 50, 0, 50, 9, 50, 0)), 0, 2, 4, 2));
-        Check.test("KIND 1: 1 less than 1 is 0", () -> gets(byRule(1, 0, boat(3, 50, 0, 50, 0, 50, 1)), 0, 0, 0, 2));
+            gets(byRule(1, 0, Boats.still(9, 50, 0, 50, 0, 50, 1)), 0, 2, 2, 4));
+        Check.test("KIND 1: ROWS 9 is 1 more, too", () -> gets(byRule(1, 0, Boats.still(9, 50, 0, 50, 9, 50, 0)), 0, 2, 4, 2));
+        Check.test("KIND 1: 1 less than 1 is 0", () -> gets(byRule(1, 0, Boats.still(3, 50, 0, 50, 0, 50, 1)), 0, 0, 0, 2));
         Check.test("KIND 1: 1 less than 0 is 0", () -> {
-            LastKeg x = byRule(1, 0, boat(2, 50, 0, 50, 0, 50, 1));
+            LastKeg x = byRule(1, 0, Boats.still(2, 50, 0, 50, 0, 50, 1));
             gets(x, 0, 0, 0, 1);
             Check.due("THE KEG then", x.told(0, 1, 0, 2), 998);
         });
-        Check.test("KIND 1: RATION 0, nobody gets 1 more", () -> gets(byRule(1, 0, boat(0, 50, 9, 50, 0)), 0, 0, 0));
+        Check.test("KIND 1: RATION 0, nobody gets 1 more", () -> gets(byRule(1, 0, Boats.still(0, 50, 9, 50, 0)), 0, 0, 0));
         Check.test("KIND 1: the last gets what is left of THE RATION", () ->
-            gets(byRule(1, 0, boat(9, 50, 1, 50, 1, 50, 1)), 0, 4, 4, 1));
-        Check.test("KIND 1: MORE does not matter", () -> gets(byRule(1, 99, boat(4, 50, 0, 50, 9)), 0, 1, 3));
+            gets(byRule(1, 0, Boats.still(9, 50, 1, 50, 1, 50, 1)), 0, 4, 4, 1));
+        Check.test("KIND 1: MORE does not matter", () -> gets(byRule(1, 99, Boats.still(4, 50, 0, 50, 9)), 0, 1, 3));
     }
 
     private static void kindNeed() {
         Check.test("KIND 2: STORE 39 is below MORE 40, 40 and 41 are not", () ->
-            gets(byRule(2, 40, boat(30, 39, 0, 40, 0, 41, 9)), 0, 12, 9, 9));
-        Check.test("KIND 2: no STORE is below MORE 0", () -> gets(byRule(2, 0, boat(8, 1, 0, 2, 0)), 0, 3, 3));
-        Check.test("KIND 2: STORE 1 is not below MORE 1", () -> gets(byRule(2, 1, boat(8, 1, 0, 2, 0)), 0, 3, 3));
-        Check.test("KIND 2: STORE 1 is below MORE 2", () -> gets(byRule(2, 2, boat(8, 2, 0, 1, 0)), 0, 3, 5));
+            gets(byRule(2, 40, Boats.still(30, 39, 0, 40, 0, 41, 9)), 0, 12, 9, 9));
+        Check.test("KIND 2: no STORE is below MORE 0", () -> gets(byRule(2, 0, Boats.still(8, 1, 0, 2, 0)), 0, 3, 3));
+        Check.test("KIND 2: STORE 1 is not below MORE 1", () -> gets(byRule(2, 1, Boats.still(8, 1, 0, 2, 0)), 0, 3, 3));
+        Check.test("KIND 2: STORE 1 is below MORE 2", () -> gets(byRule(2, 2, Boats.still(8, 2, 0, 1, 0)), 0, 3, 5));
         Check.test("KIND 2: STORE 98 is below MORE 99, 99 is not", () ->
-            gets(byRule(2, 99, boat(8, 99, 0, 98, 0)), 0, 3, 5));
-        Check.test("KIND 2: 1 less than 1 is 0", () -> gets(byRule(2, 9, boat(3, 9, 0, 9, 0, 8, 0)), 0, 0, 0, 3));
+            gets(byRule(2, 99, Boats.still(8, 99, 0, 98, 0)), 0, 3, 5));
+        Check.test("KIND 2: 1 less than 1 is 0", () -> gets(byRule(2, 9, Boats.still(3, 9, 0, 9, 0, 8, 0)), 0, 0, 0, 3));
         Check.test("KIND 2: 1 less than 0 is 0", () -> {
-            LastKeg x = byRule(2, 9, boat(2, 9, 0, 9, 0, 8, 0));
+            LastKeg x = byRule(2, 9, Boats.still(2, 9, 0, 9, 0, 8, 0));
             gets(x, 0, 0, 0, 2);
             Check.due("THE KEG then", x.told(0, 1, 0, 2), 997);
         });
         Check.test("KIND 2: his STORE as the day begins", () -> {
-            LastKeg x = byRule(2, 40, boat(10, 40, 0, 99, 0));
+            LastKeg x = byRule(2, 40, Boats.still(10, 40, 0, 99, 0));
             Check.read(x, "need 5;row 0;");
             x.force(2);
             // By 5 and 1 less, 4, he has 39 on day 1: 7, then 41: 4.
@@ -301,7 +278,7 @@ final class RuleBounds {
     }
 
     private static LastKeg lot(int men, int more) {
-        LastKeg x = men(men);
+        LastKeg x = Boats.men(men);
         x.boat(0, 12);
         x.boat(1, 999);
         x.boat(2, 3 * men);
@@ -333,36 +310,36 @@ final class RuleBounds {
         }
         for (int d : new int[] {0, 1, 11}) {
             Check.test("KIND 3: one man alone always, day " + d, () -> {
-                LastKeg x = byRule(3, 0, boat(9, 50, 0));
+                LastKeg x = byRule(3, 0, Boats.still(9, 50, 0));
                 x.boat(2, 2);
                 gets(x, d, 2);
             });
         }
-        Check.test("KIND 3: twice 0 is 0", () -> gets(byRule(3, 0, boat(2, 50, 0, 50, 0)), 0, 0, 0));
-        Check.test("KIND 3: twice is no more than THE RATION", () -> gets(byRule(3, 0, boat(9, 50, 0)), 0, 9));
+        Check.test("KIND 3: twice 0 is 0", () -> gets(byRule(3, 0, Boats.still(2, 50, 0, 50, 0)), 0, 0, 0));
+        Check.test("KIND 3: twice is no more than THE RATION", () -> gets(byRule(3, 0, Boats.still(9, 50, 0)), 0, 9));
         Check.test("KIND 3: twice 2 more, STORE 9 below MORE 10", () ->
-            gets(byRule(3, 10, boat(30, 9, 0, 10, 0, 50, 0, 11, 9, 99, 0)), 0, 16, 5, 5, 4, 0));
+            gets(byRule(3, 10, Boats.still(30, 9, 0, 10, 0, 50, 0, 11, 9, 99, 0)), 0, 16, 5, 5, 4, 0));
         Check.test("KIND 3: twice 1 less, STORE 10 not below MORE 10", () ->
-            gets(byRule(3, 10, boat(30, 10, 0, 9, 0, 50, 0, 11, 9, 99, 0)), 0, 10, 8, 5, 5, 2));
+            gets(byRule(3, 10, Boats.still(30, 10, 0, 9, 0, 50, 0, 11, 9, 99, 0)), 0, 10, 8, 5, 5, 2));
     }
 
     private static void lotOfWho() {
         Check.test("KIND 3: the dead are not among those who DRINK", () -> {
-            LastKeg x = byRule(3, 1, boat(9, 1, 9, 99, 0, 99, 0));
+            LastKeg x = byRule(3, 1, Boats.still(9, 1, 9, 99, 0, 99, 0));
             x.force(0);
             // Man 0 gets 2, needs 12; on day 1 (7 and 1) modulo 2 is 0: man 1, 4 less 1, twice.
             gets(x, 0, 2, 4, 2);
             gets(x, 1, 0, 6, 3);
         });
         Check.test("KIND 3: all alike if each dies on day 0", () -> {
-            LastKeg x = byRule(3, 1, boat(9, 1, 9, 1, 9));
+            LastKeg x = byRule(3, 1, Boats.still(9, 1, 9, 1, 9));
             x.force(0);
             gets(x, 1, 0, 0);
         });
     }
 
     private static LastKeg toldBoat(int ration, int... told) {
-        LastKeg x = boat(ration);
+        LastKeg x = Boats.still(ration);
         for (int m = 0; m < told.length; m++) {
             x.man(50, 5);
         }
@@ -384,7 +361,7 @@ final class RuleBounds {
             gets(x, 11, 50, 0);
         });
         Check.test("KIND 4: told without MEN, all later ones get 0", () -> {
-            LastKeg x = boat(99);
+            LastKeg x = Boats.still(99);
             x.sheet(0, 0, 0);
             x.rule(4, 0, 0);
             for (int m = 0; m < 8; m++) {
@@ -396,17 +373,17 @@ final class RuleBounds {
 
     private static void kindLast() {
         // Base 5: man 0 gets 6, man 1 gets 4; half of that is 3 and 2.
-        Check.test("KIND 5: MORE 2, day 1 is whole", () -> gets(byRule(5, 2, boat(10, 50, 1, 50, 0)), 1, 6, 4));
-        Check.test("KIND 5: MORE 2, day 2 is half", () -> gets(byRule(5, 2, boat(10, 50, 1, 50, 0)), 2, 3, 2));
-        Check.test("KIND 5: MORE 2, day 3 is half", () -> gets(byRule(5, 2, boat(10, 50, 1, 50, 0)), 3, 3, 2));
-        Check.test("KIND 5: MORE 0, day 0 is half", () -> gets(byRule(5, 0, boat(10, 50, 1, 50, 0)), 0, 3, 2));
-        Check.test("KIND 5: MORE 1, day 0 is whole", () -> gets(byRule(5, 1, boat(10, 50, 1, 50, 0)), 0, 6, 4));
-        Check.test("KIND 5: MORE 11, day 10 is whole", () -> gets(byRule(5, 11, boat(10, 50, 1, 50, 0)), 10, 6, 4));
-        Check.test("KIND 5: MORE 11, day 11 is half", () -> gets(byRule(5, 11, boat(10, 50, 1, 50, 0)), 11, 3, 2));
-        Check.test("KIND 5: MORE 12, day 11 is whole", () -> gets(byRule(5, 12, boat(10, 50, 1, 50, 0)), 11, 6, 4));
-        Check.test("KIND 5: MORE 99, day 11 is whole", () -> gets(byRule(5, 99, boat(10, 50, 1, 50, 0)), 11, 6, 4));
-        Check.test("KIND 5: half of 7 and 5 is cut", () -> gets(byRule(5, 0, boat(12, 50, 1, 50, 0)), 0, 3, 2));
-        Check.test("KIND 5: half of 1 is 0", () -> gets(byRule(5, 0, boat(1, 50, 1, 50, 0)), 0, 0, 0));
-        Check.test("KIND 5: 1 less than 0 is 0", () -> gets(byRule(5, 99, boat(1, 50, 0, 50, 0)), 0, 0, 0));
+        Check.test("KIND 5: MORE 2, day 1 is whole", () -> gets(byRule(5, 2, Boats.still(10, 50, 1, 50, 0)), 1, 6, 4));
+        Check.test("KIND 5: MORE 2, day 2 is half", () -> gets(byRule(5, 2, Boats.still(10, 50, 1, 50, 0)), 2, 3, 2));
+        Check.test("KIND 5: MORE 2, day 3 is half", () -> gets(byRule(5, 2, Boats.still(10, 50, 1, 50, 0)), 3, 3, 2));
+        Check.test("KIND 5: MORE 0, day 0 is half", () -> gets(byRule(5, 0, Boats.still(10, 50, 1, 50, 0)), 0, 3, 2));
+        Check.test("KIND 5: MORE 1, day 0 is whole", () -> gets(byRule(5, 1, Boats.still(10, 50, 1, 50, 0)), 0, 6, 4));
+        Check.test("KIND 5: MORE 11, day 10 is whole", () -> gets(byRule(5, 11, Boats.still(10, 50, 1, 50, 0)), 10, 6, 4));
+        Check.test("KIND 5: MORE 11, day 11 is half", () -> gets(byRule(5, 11, Boats.still(10, 50, 1, 50, 0)), 11, 3, 2));
+        Check.test("KIND 5: MORE 12, day 11 is whole", () -> gets(byRule(5, 12, Boats.still(10, 50, 1, 50, 0)), 11, 6, 4));
+        Check.test("KIND 5: MORE 99, day 11 is whole", () -> gets(byRule(5, 99, Boats.still(10, 50, 1, 50, 0)), 11, 6, 4));
+        Check.test("KIND 5: half of 7 and 5 is cut", () -> gets(byRule(5, 0, Boats.still(12, 50, 1, 50, 0)), 0, 3, 2));
+        Check.test("KIND 5: half of 1 is 0", () -> gets(byRule(5, 0, Boats.still(1, 50, 1, 50, 0)), 0, 0, 0));
+        Check.test("KIND 5: 1 less than 0 is 0", () -> gets(byRule(5, 99, Boats.still(1, 50, 0, 50, 0)), 0, 0, 0));
     }
 }

@@ -13,7 +13,9 @@ final class TextBounds {
     static void all() {
         tape();
         fullTape();
+        tapeAgain();
         words();
+        misspelt();
         numbers();
         bytes();
         early();
@@ -160,6 +162,36 @@ final class TextBounds {
         fault("a TEXT of 160 bytes, its last sign is wrong", longest().substring(0, 159) + ":", 159);
     }
 
+    private static void tapeAgain() {
+        String blanks = padded("need 1;row 12").substring(13);
+        fault("a full TAPE that ends in a WORD", "need 1;" + blanks + "row da", 158);
+        fault("a full TAPE that ends in a NAME", "need 1;" + blanks.substring(1) + "row day", 160);
+        fault("a full TAPE that ends in a NUMBER", "need 1;" + blanks + "row 12", 160);
+        Check.test("10: what stood on THE TAPE ahead is not read again", () -> {
+            LastKeg x = new LastKeg();
+            Check.due("rows", Check.read(x, "need 1;row rows;"), 1);
+            Check.due("row", Check.read(x, "need 1;row row"), -111);
+            Check.due("too long", Check.read(x, "need 1;row 12345;"), -111);
+            Check.due("not too long", Check.read(x, "need 1;row 1234"), -115);
+            Check.due("all", Check.read(x, "need 1;row 1;"), 2);
+            Check.due("all but the last", Check.read(x, "need 1;row 1"), -112);
+        });
+        Check.test("10: five TEXTS of 160 bytes, and a FAULT behind each", () -> {
+            LastKeg x = new LastKeg();
+            x.man(99, 0);
+            x.rule(0, 0, 0);
+            x.boat(3, 9999);
+            for (int t = 1; t < 6; t++) {
+                Check.due("text", Check.read(x, longest()), t);
+                Check.due("force", x.force(t), t - 1);
+                Check.due("MILES", x.told(0, 1, 0, 3), 11);
+                if (t < 5) {
+                    Check.due("FAULT", Check.read(x, longest().replace(";row", ";raw")), -253);
+                }
+            }
+        });
+    }
+
     private static String padded(String text) {
         StringBuilder s = new StringBuilder(text);
         while (s.length() < 160) {
@@ -183,11 +215,13 @@ final class TextBounds {
         right("WORDS: a sign ends one", "need(1)or(2);row(not(1));");
         right("WORDS: a line's end ends one", "need\nstore\nor\nrows;row\nday;");
         right("WORDS: all NAMES", "need store+rows+day;row share+alive+more;");
-        String[] wrong = {"needs", "nee", "eed", "rowneed", "a", "z", "row", "rows", "or", "and", "not", "store", "1need", "Need"};
+        String[] wrong = {"needs", "needa", "needz", "aneed", "zneed", "nee", "eed", "rowneed", "a", "z", "row",
+            "rows", "or", "and", "not", "store", "1need", "Need"};
         for (String word : wrong) {
             fault("WORDS: " + word + " does not stand for need", word + " 1;row 1;", 0);
         }
-        for (String word : new String[] {"rows", "ro", "ow", "r", "need", "rowrow", "or", "and", "not", "day", "1row", "ROW"}) {
+        for (String word : new String[] {"rows", "rowa", "rowz", "arow", "zrow", "ro", "ow", "r", "need", "rowrow",
+            "or", "and", "not", "day", "1row", "ROW"}) {
             fault("WORDS: " + word + " does not stand for row", "need 1;" + word + " 1;", 7);
         }
         String[] noNames = {"stor", "stores", "row", "rowss", "da", "days", "shar", "shares", "aliv", "alived", "mor", "mores",
@@ -197,6 +231,23 @@ final class TextBounds {
         }
         for (String word : new String[] {"oror", "orand", "andor", "ors", "ands", "not", "store", "need", "row", "o", "an"}) {
             fault("WORDS: " + word + " does not join", "need 1 " + word + " 1;row 1;", 7);
+        }
+    }
+
+    /** Each letter of each WORD put wrong: it is no WORD any more. */
+    private static void misspelt() {
+        String[] words = {"need", "row", "or", "and", "not", "store", "rows", "day", "share", "alive", "more"};
+        String[] texts = {"# 1;row 1;", "need 1;# 1;", "need 1 # 1;row 1;", "need 1 # 1;row 1;", "need # 1;row 1;",
+            "need #;row 1;",
+            "need #;row 1;", "need #;row 1;", "need #;row 1;", "need #;row 1;", "need #;row 1;"};
+        for (int i = 0; i < words.length; i++) {
+            String word = words[i];
+            int place = texts[i].indexOf('#');
+            right("WORDS: " + word + " is one", texts[i].replace("#", word));
+            for (int k = 0; k < word.length(); k++) {
+                String other = word.substring(0, k) + "x" + word.substring(k + 1);
+                fault("WORDS: " + other + " is none", texts[i].replace("#", other), place);
+            }
         }
     }
 
@@ -236,7 +287,8 @@ final class TextBounds {
 
     /** Each beginning of a TEXT ends too early, with blanks or without. */
     private static void early() {
-        String[] tokens = {"need", " not", " -", " (", "1", " or", " 1", " )", " <", " 2", " ;", " row", " share", " *", " 3", ";"};
+        String[] tokens = {"need", " not", " -", " (", "1", " or", " 1", " )", " <", " 2", " ;", " row", " share",
+            " *", " 3", ";"};
         StringBuilder text = new StringBuilder();
         for (String token : tokens) {
             String begun = text.toString();
@@ -429,6 +481,14 @@ final class TextBounds {
         value("1<2 and 2<3", 1);
         value("1<2 or 3<2", 1);
         value("5*(1<2)+3*(2<1)", 5);
+        String[] yes = {"not 0", "0 or 2", "2 or 0", "2 or 3", "2 and 3", "2<3", "3=3"};
+        String[] no = {"not 2", "0 or 0", "0 and 2", "2 and 0", "0 and 0", "3<2", "2<2", "2=3"};
+        for (String e : yes) {
+            value("7+(" + e + ")", 8);
+        }
+        for (String e : no) {
+            value("7+(" + e + ")", 7);
+        }
     }
 
     private static void wrapping() {
@@ -490,7 +550,7 @@ final class TextBounds {
             Check.test("row: " + said + " is " + row, () -> Check.due("MILES", bounded("0", said, 3), row));
         }
         Check.test("need, row: each man's is bounded, not all together", () -> {
-            LastKeg x = RuleBounds.boat(0, 50, 0, 50, 9);
+            LastKeg x = Boats.still(0, 50, 0, 50, 9);
             Check.due("the text", Check.read(x, "need 25;row 98+100*(0<rows)-99*(rows=0);"), 2);
             x.force(2);
             x.rule(0, 0, 0);
@@ -502,7 +562,7 @@ final class TextBounds {
 
     /** What a NAME says of man 1, who alone has ROWS, by the MILES that are rowed. */
     private static int fact(String name, int store, int rows, int more, int ration, int d) {
-        LastKeg x = RuleBounds.boat(ration, 99, 0, store, rows);
+        LastKeg x = Boats.still(ration, 99, 0, store, rows);
         Check.due("the text", Check.read(x, "need 0;row (0<rows)*(" + name + ");"), 2);
         x.force(2);
         x.rule(0, more, 0);
@@ -532,7 +592,7 @@ final class TextBounds {
     }
 
     private static LastKeg alive(int men) {
-        LastKeg x = RuleBounds.boat(0);
+        LastKeg x = Boats.still(0);
         for (int m = 0; m < men; m++) {
             x.man(50, 0);
         }
@@ -554,7 +614,7 @@ final class TextBounds {
             Check.due("on day 1", x.told(0, 2, 0, 3), 13);
         });
         Check.test("NAMES: share is what he got, not what was due to him", () -> {
-            LastKeg x = RuleBounds.boat(20, 50, 9);
+            LastKeg x = Boats.still(20, 50, 9);
             x.boat(1, 7);
             Check.read(x, "need share;row share;");
             x.force(2);

@@ -40,13 +40,6 @@ final class VoyageBounds {
         return x;
     }
 
-    private static LastKeg law(LastKeg x, String text) {
-        int t = Check.read(x, text);
-        Check.due("the text", t, x.boatTold(6) - 1);
-        x.force(t);
-        return x;
-    }
-
     private static LastKeg chances(LastKeg x, int... tenths) {
         for (int d = 0; d < tenths.length; d++) {
             x.day(d, 0, tenths[d]);
@@ -63,11 +56,11 @@ final class VoyageBounds {
         String idle = "need 0;row 0;";
         Check.test("12: CHANCE 0 on all days is 0 by 1", () -> home(dry(12, 99), 0, 0, 1));
         Check.test("12: CHANCE 9 on each of 12 days", () -> home(
-            chances(law(dry(12, 9), idle), 9, 9, 9, 9, 9, 9, 9, 9, 9, 9, 9, 9), 0, 999999999999L, 1000000000000L));
+            chances(Boats.law(dry(12, 9), idle), 9, 9, 9, 9, 9, 9, 9, 9, 9, 9, 9, 9), 0, 999999999999L, 1000000000000L));
         Check.test("12: CHANCE 1 on each of 12 days", () -> home(
-            chances(law(dry(12, 9), idle), 1, 1, 1, 1, 1, 1, 1, 1, 1, 1, 1, 1), 0, 717570463519L, 1000000000000L));
+            chances(Boats.law(dry(12, 9), idle), 1, 1, 1, 1, 1, 1, 1, 1, 1, 1, 1, 1), 0, 717570463519L, 1000000000000L));
         Check.test("12: CHANCE 5 on each of 12 days, in lowest terms", () -> home(
-            chances(law(dry(12, 9), idle), 5, 5, 5, 5, 5, 5, 5, 5, 5, 5, 5, 5), 0, 4095, 4096));
+            chances(Boats.law(dry(12, 9), idle), 5, 5, 5, 5, 5, 5, 5, 5, 5, 5, 5, 5), 0, 4095, 4096));
         for (int t = 1; t <= 9; t++) {
             int tenths = t;
             int common = t == 5 ? 5 : t % 2 == 0 ? 2 : 1;
@@ -75,7 +68,7 @@ final class VoyageBounds {
                 home(chances(dry(1, 9), tenths), 0, tenths / common, 10 / common));
         }
         Check.test("12: CHANCE 9 on day 11 alone", () ->
-            home(chances(law(dry(12, 9), idle), 0, 0, 0, 0, 0, 0, 0, 0, 0, 0, 0, 9), 0, 9, 10));
+            home(chances(Boats.law(dry(12, 9), idle), 0, 0, 0, 0, 0, 0, 0, 0, 0, 0, 0, 9), 0, 9, 10));
         Check.test("12: CHANCE behind DAYS does not matter", () -> home(chances(dry(2, 99), 0, 0, 9), 0, 0, 1));
         Check.test("12: CHANCE on the last of DAYS does", () -> home(chances(dry(3, 99), 0, 0, 9), 0, 9, 10));
         Check.test("12: DAYS 1, day 0 alone", () -> home(chances(dry(1, 99), 3, 9, 9), 0, 3, 10));
@@ -194,7 +187,7 @@ final class VoyageBounds {
             mean(x, 1, 1, 1);
         });
         Check.test("13: MEAN of 8 MEN, CHANCE 9 on 12 days", () -> {
-            LastKeg x = law(dry(12, 9, 9, 9, 9, 9, 9, 9, 9), "need 0;row 0;");
+            LastKeg x = Boats.law(dry(12, 9, 9, 9, 9, 9, 9, 9, 9), "need 0;row 0;");
             chances(x, 9, 9, 9, 9, 9, 9, 9, 9, 9, 9, 9, 9);
             mean(x, 0, 999999999999L, 125000000000L);
             mean(x, 1, 999999999999L, 1000000000000L);
@@ -295,7 +288,7 @@ final class VoyageBounds {
         Range.answered("16: what is refused without a RULE", LastKeg::new, (x, v) -> x.best(v), -2, LOW, -1, 2, HIGH);
         Range.answered("16: what is refused with 8 RULES", VoyageBounds::eight, (x, v) -> x.best(v), -2, LOW, -1, 2, HIGH);
         Range.answered("16: no RULE", LastKeg::new, (x, v) -> x.best(v), -1, 0, 1);
-        Range.answered("16: no RULE, but MEN", () -> RuleBounds.boat(9, 5, 0), (x, v) -> x.best(v), -1, 0, 1);
+        Range.answered("16: no RULE, but MEN", () -> Boats.still(9, 5, 0), (x, v) -> x.best(v), -1, 0, 1);
         Range.answered("16: one RULE by which nobody comes HOME", () -> dry(6, 3), (x, v) -> x.best(v), 0, 0, 1);
         Range.answered("16: RULES without MEN: the first", LastKeg::new, (x, v) -> {
             x.rule(1, 0, 0);
@@ -305,7 +298,7 @@ final class VoyageBounds {
         Check.test("16: the eighth RULE", () -> Check.due("MEAN", eight().best(0), 7));
         Check.test("16: of 8 like ones the first", () -> Check.due("LEAST", eight().best(1), 0));
         Check.test("16: of like ones the first, behind lesser ones", () -> {
-            LastKeg x = chances(RuleBounds.boat(50, 3, 0), 0, 5);
+            LastKeg x = chances(Boats.still(50, 3, 0), 0, 5);
             x.force(0);
             for (int t : new int[] {0, 3, 50, 0, 9}) {
                 Check.sheet(x, 0, t);
@@ -315,7 +308,7 @@ final class VoyageBounds {
             Check.due("LEAST", x.best(1), 1);
         });
         Check.test("16: MEAN and LEAST by other RULES", () -> {
-            LastKeg x = chances(RuleBounds.boat(50, 3, 0, 3, 0), 0, 1, 9);
+            LastKeg x = chances(Boats.still(50, 3, 0, 3, 0), 0, 1, 9);
             x.force(0);
             x.boat(0, 3);
             Check.sheet(x, 0, 0, 50);
@@ -330,11 +323,11 @@ final class VoyageBounds {
 
     /** One man alone, THE KEG is full: they LAND on day 0 if the text says 1. */
     private static LastKeg rowsIf(String e) {
-        LastKeg x = RuleBounds.boat(12, 50, 0);
+        LastKeg x = Boats.still(12, 50, 0);
         x.boat(0, 1);
         x.boat(3, 1);
         x.rule(0, 0, 0);
-        return law(x, "need 0;row " + e + ";");
+        return Boats.law(x, "need 0;row " + e + ";");
     }
 
     private static void rations() {
@@ -347,6 +340,8 @@ final class VoyageBounds {
             Check.test("17: THE RATION " + ration + " alone", () ->
                 Check.due("rations", rowsIf("share=" + ration).rations(0), ration));
         }
+        Check.test("17: THE RATION 100 is none", () ->
+            Check.due("rations", rowsIf("share=100").rations(0), 0));
         Check.test("17: of like ones the least, 98 and 99", () ->
             Check.due("rations", rowsIf("97<share").rations(0), 98));
         Check.test("17: of like ones the least, all of them", () -> Check.due("rations", rowsIf("1").rations(0), 0));
@@ -361,7 +356,7 @@ final class VoyageBounds {
             }
         });
         Check.test("17: MEAN, not LEAST", () -> {
-            LastKeg x = RuleBounds.boat(12, 3, 0, 3, 0);
+            LastKeg x = Boats.still(12, 3, 0, 3, 0);
             x.force(0);
             x.boat(0, 2);
             chances(x, 1, 5);
@@ -407,6 +402,17 @@ final class VoyageBounds {
             x.rule(4, 0, 0);
             Check.due("take", x.take(1, 2), 0);
         });
+        Check.test("18: the RULE is kept: KIND 3 counts those who take", () -> {
+            LastKeg x = chances(dry(2, 9, 1, 2), 0, 5);
+            x.boat(1, 99);
+            x.boat(2, 6);
+            x.rule(3, 0, 0);
+            // By 3, 1 less: man 1, the first of the two, gets 4, man 2 gets 2.
+            Check.due("take", x.take(1, 6), 1);
+            Check.due("by KIND 0 man 2 lives anyhow", x.take(0, 6), 0);
+            x.set(2, 0, 1);
+            Check.due("2 is too little for man 2", x.take(1, 6), 0);
+        });
         Check.test("18: HOME 1 is not made greater", () -> {
             LastKeg x = rivals();
             x.set(1, 0, 9);
@@ -417,20 +423,21 @@ final class VoyageBounds {
 
     /** All live and row by a text, they LAND on day 0 or never. */
     private static LastKeg allRow(String e, int miles, int... rows) {
-        LastKeg x = RuleBounds.boat(99);
+        LastKeg x = Boats.still(99);
         for (int row : rows) {
             x.man(50, row);
         }
         x.boat(0, 1);
         x.boat(3, miles);
         x.rule(0, 0, 0);
-        return law(x, "need 0;row " + e + ";");
+        return Boats.law(x, "need 0;row " + e + ";");
     }
 
     private static void takes() {
         Range.answered("19: a RULE is refused", VoyageBounds::eight, (x, v) -> x.takes(v), -5, LOW, -1, 8, HIGH);
         Check.test("19: no MEN", () -> Check.due("takes", dry(2).takes(0), -1));
         Check.test("19: one man alone", () -> Check.due("takes", dry(2, 3).takes(0), -1));
+        Check.test("19: HOME as it was is not greater", () -> Check.due("takes", rivals().takes(0), 2));
         int[] due = {1, 3, 7, -1};
         for (int n = 1; n <= 4; n++) {
             int many = n;
@@ -481,8 +488,8 @@ final class VoyageBounds {
             Check.due("below", x.hid(7, 7, 1, 1), 20);
         });
         Check.test("20: less than 0 is above the line", () -> {
-            LastKeg x = chances(RuleBounds.boat(6, 5, 0, 99, 0), 0, 0, 5);
-            law(x, "need 3+5*(day=1);row 0;");
+            LastKeg x = chances(Boats.still(6, 5, 0, 99, 0), 0, 0, 5);
+            Boats.law(x, "need 3+5*(day=1);row 0;");
             x.rule(2, 5, 0);
             // With 5 he has 4 on day 1, below MORE, and gets 5; with 6 he has 5, gets 2 and dies.
             hid(x, 1, -1, 2);
@@ -494,29 +501,29 @@ final class VoyageBounds {
         int[][] cases = {{0, 0, 1}, {10, 0, 1}, {11, 1, 2}, {12, 1, 2}, {50, 1, 2}};
         for (int[] c : cases) {
             Check.test("HID: 1 a day, " + c[0] + " till day 11", () ->
-                hid(chances(law(dry(12, 1), one), 0, 0, 0, 0, 0, 0, 0, 0, 0, 0, 0, 5), c[0], c[1], c[2]));
+                hid(chances(Boats.law(dry(12, 1), one), 0, 0, 0, 0, 0, 0, 0, 0, 0, 0, 0, 5), c[0], c[1], c[2]));
         }
         Check.test("HID: 1 on the first day, not on the second", () -> {
-            LastKeg x = chances(law(dry(12, 1), one), 0, 0, 5);
+            LastKeg x = chances(Boats.law(dry(12, 1), one), 0, 0, 5);
             hid(x, 1, 0, 1);
             hid(x, 2, 1, 2);
         });
         Check.test("HID: it does not come twice on a day", () ->
-            hid(chances(law(dry(2, 1), "need 2;row 0;"), 0, 5), 50, 0, 1));
+            hid(chances(Boats.law(dry(2, 1), "need 2;row 0;"), 0, 5), 50, 0, 1));
         Check.test("HID: nothing for one who is dead", () ->
-            hid(chances(law(dry(12, 1), "need 2;row 0;"), 0, 0, 5, 5), 50, 0, 1));
+            hid(chances(Boats.law(dry(12, 1), "need 2;row 0;"), 0, 0, 5, 5), 50, 0, 1));
         Check.test("HID: STORE 99 and 1 less 1 is 99", () -> {
             // 98 are needed from day 1 to day 5.
-            LastKeg x = law(dry(12, 99), "need 1+19*(0<day)-2*(day=5);row 0;");
+            LastKeg x = Boats.law(dry(12, 99), "need 1+19*(0<day)-2*(day=5);row 0;");
             hid(chances(x, 0, 0, 0, 0, 0, 0, 5), 1, 1, 2);
         });
         Check.test("HID: STORE is no more than 99", () -> {
-            LastKeg x = law(dry(12, 99), "need 19*(0<day)+4*(day=5);row 0;");
+            LastKeg x = Boats.law(dry(12, 99), "need 19*(0<day)+4*(day=5);row 0;");
             // 19 on 4 days and 20 on day 5 are 96; 20 on day 6 leave nothing.
             hid(chances(x, 0, 0, 0, 0, 0, 0, 0, 5), 1, 0, 1);
         });
         Check.test("HID: he has it besides, it is not of THE RATION, THE KEG", () -> {
-            LastKeg x = chances(RuleBounds.boat(6, 3, 0, 3, 0), 0, 0, 5);
+            LastKeg x = chances(Boats.still(6, 3, 0, 3, 0), 0, 0, 5);
             x.force(0);
             x.boat(1, 6);
             x.rule(0, 0, 0);
@@ -524,7 +531,7 @@ final class VoyageBounds {
             hid(x, 1, 1, 2);
         });
         Check.test("HID: it is not what a text calls share", () -> {
-            LastKeg x = law(dry(1, 50), "need 0;row share;");
+            LastKeg x = Boats.law(dry(1, 50), "need 0;row share;");
             x.boat(3, 1);
             hid(x, 50, 0, 1);
         });
@@ -560,7 +567,7 @@ final class VoyageBounds {
             });
         }
         Check.test("21: day 11 of 12, day 12 is none", () -> {
-            LastKeg x = RuleBounds.boat(6, 9, 0);
+            LastKeg x = Boats.still(6, 9, 0);
             x.rule(0, 0, 0);
             Check.sheet(x, 3, 6);
             Check.due("day 11", x.judge(0, 11, 3), -1);
@@ -570,7 +577,7 @@ final class VoyageBounds {
             Check.due("day 1", x.judge(0, 1, 3), -5);
         });
         Check.test("21: behind the landing all got 0", () -> {
-            LastKeg x = RuleBounds.boat(6, 9, 0);
+            LastKeg x = Boats.still(6, 9, 0);
             x.rule(0, 0, 0);
             x.boat(3, 0);
             Check.sheet(x, 3, 6);
@@ -586,7 +593,7 @@ final class VoyageBounds {
             for (int size : new int[] {men - 1, men, men + 1, 40}) {
                 if (size >= 0) {
                     Check.test("21: " + men + " MEN, a SHEET of " + size, () -> {
-                        LastKeg x = RuleBounds.boat(0);
+                        LastKeg x = Boats.still(0);
                         for (int m = 0; m < men; m++) {
                             x.man(9, 0);
                         }
@@ -600,7 +607,7 @@ final class VoyageBounds {
         for (int sort = 0; sort < 3; sort++) {
             int of = sort;
             Check.test("21: a SHEET of sort " + sort, () -> {
-                LastKeg x = RuleBounds.boat(99, 9, 0);
+                LastKeg x = Boats.still(99, 9, 0);
                 x.rule(0, 0, 0);
                 x.sheet(0, of, 1);
                 x.cell(0, 0, 99);
@@ -629,7 +636,8 @@ final class VoyageBounds {
         Range.answered("22: a man is refused", made, (x, v) -> x.until(0, v), -5, LOW, -1, 8, HIGH);
         Range.answered("22: a man is taken", made, (x, v) -> x.until(0, v), 0, 0, 1, 6, 7);
         Check.test("22: RULE 7, man 7", () -> Check.due("until", eight().until(7, 7), 1));
-        Check.test("22: day 0 at least, the last of DAYS at most", () -> until(dry(12, 1, 3, 4, 33, 34, 99), 0, 0, 1, 10, 11, 11));
+        Check.test("22: day 0 at least, the last of DAYS at most", () -> until(dry(12, 1, 3, 4, 33, 34, 99), 0, 0, 1,
+            10, 11, 11));
         Check.test("22: DAYS 1", () -> until(dry(1, 1, 99), 0, 0));
         Check.test("22: CHANCES are of no matter", () -> until(chances(dry(6, 99), 9, 0, 0, 0, 0, 0), 5));
         Check.test("22: the day at whose end they LAND", () -> until(landing(50, 50), 1, 1));
