@@ -588,6 +588,16 @@ final class TextBounds {
         Check.test("NAMES: share 49", () -> Check.due("share", fact("share", 50, 1, 0, 99, 0), 49));
         Check.test("NAMES: more 0", () -> Check.due("more", fact("more", 50, 1, 0, 0, 0), 0));
         Check.test("NAMES: more 99", () -> Check.due("more", fact("more", 50, 1, 99, 0, 0), 99));
+        for (int kind = 0; kind < 6; kind++) {
+            int of = kind;
+            Check.test("NAMES: more of KIND " + kind, () -> {
+                LastKeg x = Boats.law(Boats.still(0, 50, 1), "need 0;row more;");
+                Check.sheet(x, 0, 7);
+                x.rule(0, 1, 0);
+                Check.due("rule", x.rule(of, 60 + of, 0), 1);
+                Check.due("MILES", x.told(1, 1, 0, 3), 60 + of);
+            });
+        }
         Check.test("NAMES: alive 2", () -> Check.due("alive", fact("alive", 50, 1, 0, 0, 0), 2));
     }
 

@@ -413,6 +413,16 @@ final class VoyageBounds {
             x.set(2, 0, 1);
             Check.due("2 is too little for man 2", x.take(1, 6), 0);
         });
+        Check.test("18: the RULE is kept: KIND 3 by how many take, not by how many live", () -> {
+            LastKeg x = chances(Boats.law(dry(2, 50, 3, 50), "need 8;row 0;"), 0, 5);
+            x.boat(1, 99);
+            x.boat(2, 6);
+            x.rule(3, 2, 0);
+            // 6 less 1 is 5, by which he dies; 2 modulo 1 is 0, so he gets all 6.
+            Check.due("take", x.take(1, 2), 1);
+            x.set(1, 0, 2);
+            Check.due("by 1 less in his STORE he dies", x.take(1, 2), 0);
+        });
         Check.test("18: HOME 1 is not made greater", () -> {
             LastKeg x = rivals();
             x.set(1, 0, 9);
